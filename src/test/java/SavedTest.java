@@ -1,0 +1,201 @@
+import java.util.ArrayList;
+import java.util.List;
+
+/** Promises 39 and 40: saved states. */
+public final class SavedTest {
+    private static final Checks CHECKS = new Checks();
+    private static final String PROGRAM = "banks 2 rows 3 columns 2; cache 2; budget 1;"
+            + "batch 0: load 0 0; add 1 0 0; store 1 1; end; batch 0 1: reduce add 1; end;"
+            + "batch 1: set 3 9; load 2 1; load 2 2; end;";
+
+    public static void main(String[] args) {
+        everythingComesBack();
+        futureIsTheSame();
+        slotsAreApart();
+        savedInPlace();
+        notSaved();
+        wrongSlots();
+        CHECKS.end();
+    }
+
+    private static void due(String name, Object got, Object want) {
+        CHECKS.due(name, got, want);
+    }
+
+    /** Everything that can be seen without a change. */
+    private static List<Object> view(ProcessingMemory x) {
+        List<Object> all = new ArrayList<>();
+        for (int what = 0; what < 7; what++) {
+            all.add(x.count(what));
+        }
+        for (int what = 0; what < 3; what++) {
+            all.add(x.cache(what));
+        }
+        for (int bank = 0; bank < x.count(0); bank++) {
+            all.add(x.clock(bank));
+            all.add(x.openRow(bank));
+            for (int row = 0; row < x.count(1); row++) {
+                all.add(x.line(bank, row));
+            }
+            for (int column = 0; column < x.count(2); column++) {
+                for (int row = 0; row < x.count(1); row++) {
+                    all.add(x.memory(bank, row, column));
+                }
+                for (int register = 0; register < 4; register++) {
+                    all.add(x.register(bank, register, column));
+                    all.add(x.wouldBe(bank, register, column));
+                }
+            }
+            for (int i = 0; i < 4; i++) {
+                all.add(x.ready(bank, i));
+                all.add(x.stalls(bank, i));
+            }
+            if (x.finish() > 0) {
+                all.add(x.utilization(bank));
+            }
+        }
+        for (int position = 0; position < x.count(4); position++) {
+            all.add(x.queued(position));
+        }
+        for (int run = Math.max(0, x.count(5) - 40); run < x.count(5); run++) {
+            for (int what = 0; what < 3; what++) {
+                all.add(x.runOf(run, what));
+            }
+        }
+        all.add(x.wouldFinish(-1));
+        boolean coherence = x.setCoherence(false);
+        x.setCoherence(coherence);
+        all.add(coherence);
+        return all;
+    }
+
+    private static ProcessingMemory used() {
+        ProcessingMemory x = Checks.with(PROGRAM);
+        x.fill(0, 0, 1, 1);
+        x.hostWrite(0, 0, 0, 7);
+        x.hostRead(1, 2, 0);
+        x.hostWrite(1, 2, 1, 8);
+        Checks.runAll(x, 0, 2, 1);
+        x.setCoherence(true);
+        Checks.submitAll(x, 2, 0);
+        return x;
+    }
+
+    private static void changeAll(ProcessingMemory x) {
+        x.setCoherence(false);
+        x.hostRead(0, 2, 0);
+        x.hostWrite(0, 1, 0, 99);
+        x.hostRead(0, 1, 1);
+        x.flushAll();
+        x.fill(1, 0, 44, 1);
+        Checks.submitAll(x, 1, 1, 0, 2);
+        x.run(5);
+        for (int i = 0; i < 45; i++) {
+            Checks.runAll(x, 1);
+        }
+    }
+
+    private static void everythingComesBack() {
+        ProcessingMemory x = used();
+        List<Object> before = view(x);
+        x.save(0);
+        due("39: saving changes nothing", view(x), before);
+        changeAll(x);
+        due("39: changed", view(x).equals(before), false);
+        x.restore(0);
+        due("40: as before", view(x), before);
+        changeAll(x);
+        x.restore(0);
+        due("40: it stays saved", view(x), before);
+    }
+
+    private static void futureIsTheSame() {
+        ProcessingMemory x = used();
+        x.save(1);
+        changeAll(x);
+        List<Object> first = view(x);
+        x.restore(1);
+        changeAll(x);
+        due("40: the same calls then answer the same", view(x), first);
+        ProcessingMemory y = Checks.with(PROGRAM);
+        y.hostRead(0, 0, 0);
+        y.hostRead(0, 1, 0);
+        y.save(0);
+        y.hostRead(0, 0, 0);
+        y.restore(0);
+        y.hostRead(0, 2, 0);
+        due("40: which line was used least recently", y.line(0, 0), 0);
+        due("40: and which was not", y.line(0, 1), 1);
+        ProcessingMemory z = Checks.with(PROGRAM);
+        z.save(0);
+        Checks.runAll(z, 2);
+        z.restore(0);
+        Checks.runAll(z, 2);
+        // set ..1; activation 1..11, load ..15; the next one waits for it, and then for 51.
+        due("40: the activations are forgotten", z.finish(), 65);
+    }
+
+    private static void slotsAreApart() {
+        ProcessingMemory x = used();
+        x.save(0);
+        List<Object> first = view(x);
+        x.run(2);
+        x.save(1);
+        List<Object> second = view(x);
+        x.restore(0);
+        due("40: slot 0", view(x), first);
+        x.restore(1);
+        due("40: slot 1", view(x), second);
+        x.restore(0);
+        due("40: slot 0 again", view(x), first);
+    }
+
+    private static void savedInPlace() {
+        ProcessingMemory x = used();
+        x.save(0);
+        x.run(2);
+        x.save(0);
+        List<Object> later = view(x);
+        changeAll(x);
+        x.restore(0);
+        due("39: in place of what was saved there", view(x), later);
+    }
+
+    private static void notSaved() {
+        ProcessingMemory x = used();
+        x.append(0, 0, 0, 0, 0);
+        x.save(0);
+        x.append(0, 0, 0, 0, 0);
+        x.restore(0);
+        due("39: the text buffer stays", x.truncate(40), 40);
+        x.truncate(3);
+        CHECKS.dueThrow("4: zeros", Checks.ARGUMENT, x::load);
+        due("5: code", x.errorCode(), 1);
+        x.restore(0);
+        due("39: the error stays", x.errorCode(), 1);
+        due("39: its position stays", x.errorPosition(), 0);
+        x.save(1);
+        x.restore(0);
+        x.restore(1);
+        due("39: the program stays", x.count(3), 3);
+    }
+
+    private static void wrongSlots() {
+        ProcessingMemory x = used();
+        for (int slot : new int[] {-1, 2, Integer.MIN_VALUE, Integer.MAX_VALUE}) {
+            CHECKS.dueThrow("39: slot " + slot, Checks.INDEX, () -> x.save(slot));
+            CHECKS.dueThrow("40: slot " + slot, Checks.INDEX, () -> x.restore(slot));
+        }
+        CHECKS.dueThrow("40: slot 0", Checks.ELEMENT, () -> x.restore(0));
+        CHECKS.dueThrow("40: slot 1", Checks.ELEMENT, () -> x.restore(1));
+        x.save(1);
+        CHECKS.dueThrow("40: slot 0 still", Checks.ELEMENT, () -> x.restore(0));
+        List<Object> before = view(x);
+        CHECKS.dueThrow("40: slot 0 still", Checks.ELEMENT, () -> x.restore(0));
+        due("40: nothing changed", view(x), before);
+        ProcessingMemory y = new ProcessingMemory();
+        y.save(0);
+        y.restore(0);
+        due("39: a new object", y.count(0), 1);
+    }
+}
