@@ -158,6 +158,7 @@ public final class ProcessingMemory {
         spareProgram = program;
         program = loaded;
         state.clear();
+        planner.forgetPlan();
         savedSlots = 0;
         return program.batchCount;
     }
@@ -320,6 +321,7 @@ public final class ProcessingMemory {
             throw new IllegalStateException("the queue is full");
         }
         state.agenda.addBatch(batch);
+        planner.forgetPlan();
         return state.agenda.length;
     }
 
@@ -340,6 +342,7 @@ public final class ProcessingMemory {
         for (int done = 0; done < due; done++) {
             state.runNext(program);
         }
+        planner.forgetPlan();
         return due;
     }
 
@@ -464,6 +467,7 @@ public final class ProcessingMemory {
         planner.plan(program, state);
         int before = predictFinish(NONE, program.settings[BUDGET]);
         planner.applyTo(state.agenda);
+        planner.forgetPlan();
         return before - planner.bestTime;
     }
 
@@ -491,6 +495,7 @@ public final class ProcessingMemory {
             throw new NoSuchElementException("nothing is saved in the slot");
         }
         state.copyFrom(slots[slot]);
+        planner.forgetPlan();
     }
 
     private void requireBatch(int batch) {
@@ -1028,7 +1033,7 @@ public final class ProcessingMemory {
             }
         }
 
-        /** Goes to a token; the one for the end is never taken, so there is one behind the taken. */
+        /** Goes to a token. That of the end is never taken, so that each taken one has a next. */
         private void goTo(int newPlace) {
             place = newPlace;
             kind = tokens.kinds[place];
@@ -1073,6 +1078,7 @@ public final class ProcessingMemory {
         private void execute(Program program, int command, int bank, int lowest) {
             int left = program.lefts[command];
             int target = lanePlace(bank, program.targets[command], 0);
+            int lowestTarget = lanePlace(lowest, program.targets[command], 0);
             switch (program.verbs[command]) {
                 case LOAD:
                     copyWords(words, wordPlace(bank, left, 0), lanes, target);
@@ -1084,18 +1090,23 @@ public final class ProcessingMemory {
                     setLanes(target, left);
                     break;
                 case OPERATE:
-                    operate(program, command, bank);
+                    combineRegisters(
+                            program,
+                            command,
+                            target,
+                            lanePlace(bank, left, 0),
+                            lanePlace(bank, program.rights[command], 0));
                     break;
                 case LANES:
                     combineLanes(program, command, target);
                     break;
                 case REDUCE:
                     if (bank != lowest) {
-                        reduceInto(lowest, program, command, bank);
+                        combineRegisters(program, command, lowestTarget, lowestTarget, target);
                     }
                     break;
                 case BROADCAST:
-                    copyWords(lanes, lanePlace(lowest, program.targets[command], 0), lanes, target);
+                    copyWords(lanes, lowestTarget, lanes, target);
                     break;
                 default:
                     break;
@@ -1108,11 +1119,9 @@ public final class ProcessingMemory {
             }
         }
 
-        private void operate(Program program, int command, int bank) {
+        private void combineRegisters(
+                Program program, int command, int target, int left, int right) {
             int operation = program.operations[command];
-            int target = lanePlace(bank, program.targets[command], 0);
-            int left = lanePlace(bank, program.lefts[command], 0);
-            int right = lanePlace(bank, program.rights[command], 0);
             for (int lane = 0; lane < program.columnCount; lane++) {
                 lanes[target + lane] = combine(operation, lanes[left + lane], lanes[right + lane]);
             }
@@ -1122,16 +1131,6 @@ public final class ProcessingMemory {
             int operation = program.operations[command];
             for (int lane = 1; lane < program.columnCount; lane++) {
                 lanes[target] = combine(operation, lanes[target], lanes[target + lane]);
-            }
-        }
-
-        private void reduceInto(int lowest, Program program, int command, int bank) {
-            int operation = program.operations[command];
-            int target = lanePlace(lowest, program.targets[command], 0);
-            int source = lanePlace(bank, program.targets[command], 0);
-            for (int lane = 0; lane < program.columnCount; lane++) {
-                lanes[target + lane] =
-                        combine(operation, lanes[target + lane], lanes[source + lane]);
             }
         }
     }
@@ -1410,7 +1409,6 @@ public final class ProcessingMemory {
                 return false;
             }
             rows[line] = NONE;
-            isDirty[line] = false;
             return true;
         }
 
@@ -1535,6 +1533,8 @@ public final class ProcessingMemory {
 
     /** Looks at orders and chains of the queue. */
     private static final class Planner {
+        // Whether the best order has been found and nothing has changed since that.
+        private boolean isPlanned;
         int bestTime;
         final int[] bestPositions = new int[MOST_PLANNED];
         private final int[] positions = new int[MOST_PLANNED];
@@ -1554,8 +1554,16 @@ public final class ProcessingMemory {
             }
         }
 
+        void forgetPlan() {
+            isPlanned = false;
+        }
+
         /** Finds the best order; the queue has at most MOST_PLANNED batches. */
         void plan(Program newProgram, State now) {
+            if (isPlanned) {
+                return;
+            }
+            isPlanned = true;
             program = newProgram;
             agenda = now.agenda;
             bestTime = Integer.MAX_VALUE;

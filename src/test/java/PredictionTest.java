@@ -7,13 +7,17 @@ public final class PredictionTest {
         wouldBe();
         wouldBeWithCoherence();
         conflicts();
+        registersAreNoRows();
         conflictsOfOneBatch();
         chains();
         bestOfThree();
         bestUnderConflict();
+        conflictsWithTheFirst();
+        onePlanAfterAnother();
         equalOrders();
         limitsOfBest();
         bestAfterRuns();
+        bestAfterChanges();
         budgets();
         budgetsFromNowOn();
         budgetOfEight();
@@ -128,9 +132,21 @@ public final class PredictionTest {
         conflict(true, "2 1: broadcast 0", "2: store 0 0");
         conflict(true, "2 1: broadcast 0", "2: set 0 1");
         conflict(false, "2 1: broadcast 0", "0: set 0 1");
+        conflict(false, "1 2: broadcast 3", "2: set 0 1");
         conflict(false, "0 1: barrier", "0 1: barrier; set 0 1");
         conflict(true, "0 2: set 3 1", "1 2: store 3 0");
         conflict(true, "0: barrier; set 0 1; barrier", "0: set 1 1; load 2 2; store 0 3");
+    }
+
+    private static void registersAreNoRows() {
+        for (int row = 0; row < 16; row++) {
+            ProcessingMemory x = Checks.with("banks 1 rows 16 columns 1; batch 0: store 3 " + row
+                    + "; end; batch 0: set 0 1; set 1 1; set 2 1; end; batch 0: load 0 " + row
+                    + "; end; batch 0: load 1 " + (row + 1) % 16 + "; end;");
+            due("33: registers and row " + row, x.isConflict(0, 1), false);
+            due("33: the same row " + row, x.isConflict(0, 2), true);
+            due("33: another row " + row, x.isConflict(0, 3), false);
+        }
     }
 
     private static void conflictsOfOneBatch() {
@@ -217,6 +233,46 @@ public final class PredictionTest {
         dueOrder("batch 2 before batch 3", y, 0, 2, 1);
     }
 
+    private static void conflictsWithTheFirst() {
+        // Bank 0 has 3 ticks of work for batch 2 and 10 behind it, bank 1 has 13 at any time. It
+        // would be better to reduce at once, but the registers have to be set before.
+        ProcessingMemory x = Checks.with("banks 2 rows 1 columns 1;"
+                + "batch 0:" + "set 0 1;".repeat(3) + "end; batch 1: set 0 1; end;"
+                + "batch 0 1: reduce add 0; end; batch 0:" + "set 0 1;".repeat(10) + "end;"
+                + "batch 1:" + "set 1 1;".repeat(13) + "end;");
+        Checks.submitAll(x, 0, 2, 3, 4);
+        due("35: one before it", x.bestFinish(), 19);
+        dueOrder("one before it", x, 0, 1, 2, 3);
+        x.run(16);
+        due("29: one before it", x.finish(), 19);
+        ProcessingMemory y = Checks.with("banks 2 rows 1 columns 1;"
+                + "batch 0:" + "set 0 1;".repeat(3) + "end; batch 1: set 0 1; end;"
+                + "batch 0 1: reduce add 0; end; batch 0:" + "set 0 1;".repeat(10) + "end;"
+                + "batch 1:" + "set 1 1;".repeat(13) + "end;");
+        Checks.submitAll(y, 0, 1, 2, 3, 4);
+        due("35: two before it", y.bestFinish(), 19);
+        dueOrder("two before it", y, 0, 1, 2, 3, 4);
+    }
+
+    private static void onePlanAfterAnother() {
+        ProcessingMemory x = Checks.with(JOINING);
+        Checks.submitAll(x, 0, 1, 2);
+        due("37: without a look at it before", x.reorder(), 3);
+        dueQueue("without a look at it before", x, 0, 2, 1);
+        x.run(16);
+        Checks.submitAll(x, 2, 3);
+        due("35: all at 3, then 6, then 9", x.bestFinish(), 9);
+        x.run(1);
+        x.run(1);
+        Checks.submitAll(x, 2);
+        x.run(1);
+        // Bank 0 is at 12 and bank 1 at 9, so that batch 0 should come before the barrier.
+        Checks.submitAll(x, 1, 0);
+        due("31: as it is", x.wouldFinish(-1), 15);
+        dueOrder("nothing is left of the plan before", x, 1, 0);
+        due("35: best", x.bestFinish(), 12);
+    }
+
     private static void equalOrders() {
         ProcessingMemory x = Checks.with(JOINING);
         Checks.submitAll(x, 1, 1, 1, 1, 1, 1);
@@ -259,6 +315,31 @@ public final class PredictionTest {
         dueOrder("best", x, 1, 0);
         x.run(1);
         due("35: too late", x.bestFinish(), 6);
+    }
+
+    private static void bestAfterChanges() {
+        ProcessingMemory x = Checks.with(JOINING);
+        Checks.submitAll(x, 0, 1);
+        x.save(0);
+        due("35: two", x.bestFinish(), 3);
+        dueOrder("two", x, 0, 1);
+        x.submit(2);
+        due("35: three", x.bestFinish(), 3);
+        dueOrder("three", x, 0, 2, 1);
+        x.run(2);
+        due("35: after two runs", x.bestFinish(), 6);
+        dueOrder("after two runs", x, 0);
+        x.restore(0);
+        due("35: restored", x.bestFinish(), 3);
+        dueOrder("restored", x, 0, 1);
+        Checks.type(x, "banks 1 rows 1 columns 1; batch 0: set 0 1; end;");
+        x.load();
+        due("35: loaded", x.bestFinish(), 0);
+        x.submit(0);
+        due("35: submitted", x.bestFinish(), 1);
+        Checks.type(x, "banks 1 rows 1 columns 1; batch 0: set 0 1; end;");
+        x.load();
+        due("35: loaded again", x.bestFinish(), 0);
     }
 
     private static void budgets() {

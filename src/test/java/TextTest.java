@@ -15,6 +15,7 @@ public final class TextTest {
         repetitions();
         tooMany();
         loadBeginsAnew();
+        loadAgainAndAgain();
         failedLoadKeepsAll();
         counts();
         batches();
@@ -171,6 +172,7 @@ public final class TextTest {
         bad(1, "^");
         bad(1, " \n ^");
         bad(1, "^bank 1 rows 1 columns 1;");
+        bad(1, "^banksz 1 rows 1 columns 1;");
         bad(1, "^banksrows 1 columns 1;");
         bad(1, "^Banks 1 rows 1 columns 1;");
         bad(1, "^\tbanks 1 rows 1 columns 1;");
@@ -328,6 +330,30 @@ public final class TextTest {
             x.hostRead(1, row, 0);
         }
         due("4: the setting cache is 4 again", x.count(6), 4);
+    }
+
+    private static void loadAgainAndAgain() {
+        String[] batches = {"0: set 0 1;", "0: barrier;", "1: store 3 0; set 1 1;"};
+        boolean[] want = {true, false, true};
+        boolean[] wantRead = {false, false, true};
+        ProcessingMemory x = new ProcessingMemory();
+        for (int i = 0; i < 9; i++) {
+            String commands = "barrier;".repeat(40);
+            Checks.type(x, SIZES + "batch 0 1:" + commands + "end; batch " + batches[i % 3]
+                    + "end; batch 1: set 3 1; end;");
+            due("4: load " + i, x.load(), 3);
+            due("8: load " + i, x.commands(0), 40);
+            due("8: load " + i, x.commands(1), i % 3 == 2 ? 2 : 1);
+            due("33: load " + i, x.isConflict(1, 1), want[i % 3]);
+            due("33: load " + i, x.isConflict(0, 1), false);
+            due("33: load " + i, x.isConflict(1, 2), wantRead[i % 3]);
+        }
+        for (int i = 0; i < 3; i++) {
+            Checks.type(x, "banks 1 rows 2 columns 1; budget 1; batch 0: load 0 0; end;");
+            x.load();
+            Checks.runAll(x, 0);
+            due("4: earlier activations are forgotten", x.finish(), 14);
+        }
     }
 
     private static void failedLoadKeepsAll() {
