@@ -32,6 +32,7 @@ public final class ProcessingMemory {
     private static final int MOST_LINES = 8;
     private static final int MOST_BUDGET = 8;
     private static final int SLOTS = 2;
+    private static final int NEVER = 2147483647;
 
     private static final int NO_ERROR = 0;
     private static final int WRONG_TOKEN = 1;
@@ -1566,7 +1567,7 @@ public final class ProcessingMemory {
             isPlanned = true;
             program = newProgram;
             agenda = now.agenda;
-            bestTime = Integer.MAX_VALUE;
+            bestTime = NEVER;
             taken = 0;
             levels[0].copyFrom(now.times);
             findPredecessors();
