@@ -1,4 +1,3 @@
-import java.util.ArrayList;
 import java.util.List;
 
 /** Promises 39 and 40: saved states. */
@@ -20,53 +19,6 @@ public final class SavedTest {
 
     private static void due(String name, Object got, Object want) {
         CHECKS.due(name, got, want);
-    }
-
-    /** Everything that can be seen without a change. */
-    private static List<Object> view(ProcessingMemory x) {
-        List<Object> all = new ArrayList<>();
-        for (int what = 0; what < 7; what++) {
-            all.add(x.count(what));
-        }
-        for (int what = 0; what < 3; what++) {
-            all.add(x.cache(what));
-        }
-        for (int bank = 0; bank < x.count(0); bank++) {
-            all.add(x.clock(bank));
-            all.add(x.openRow(bank));
-            for (int row = 0; row < x.count(1); row++) {
-                all.add(x.line(bank, row));
-            }
-            for (int column = 0; column < x.count(2); column++) {
-                for (int row = 0; row < x.count(1); row++) {
-                    all.add(x.memory(bank, row, column));
-                }
-                for (int register = 0; register < 4; register++) {
-                    all.add(x.register(bank, register, column));
-                    all.add(x.wouldBe(bank, register, column));
-                }
-            }
-            for (int i = 0; i < 4; i++) {
-                all.add(x.ready(bank, i));
-                all.add(x.stalls(bank, i));
-            }
-            if (x.finish() > 0) {
-                all.add(x.utilization(bank));
-            }
-        }
-        for (int position = 0; position < x.count(4); position++) {
-            all.add(x.queued(position));
-        }
-        for (int run = Math.max(0, x.count(5) - 40); run < x.count(5); run++) {
-            for (int what = 0; what < 3; what++) {
-                all.add(x.runOf(run, what));
-            }
-        }
-        all.add(x.wouldFinish(-1));
-        boolean coherence = x.setCoherence(false);
-        x.setCoherence(coherence);
-        all.add(coherence);
-        return all;
     }
 
     private static ProcessingMemory used() {
@@ -97,26 +49,26 @@ public final class SavedTest {
 
     private static void everythingComesBack() {
         ProcessingMemory x = used();
-        List<Object> before = view(x);
+        List<Object> before = View.of(x);
         x.save(0);
-        due("39: saving changes nothing", view(x), before);
+        due("39: saving changes nothing", View.of(x), before);
         changeAll(x);
-        due("39: changed", view(x).equals(before), false);
+        due("39: changed", View.of(x).equals(before), false);
         x.restore(0);
-        due("40: as before", view(x), before);
+        due("40: as before", View.of(x), before);
         changeAll(x);
         x.restore(0);
-        due("40: it stays saved", view(x), before);
+        due("40: it stays saved", View.of(x), before);
     }
 
     private static void futureIsTheSame() {
         ProcessingMemory x = used();
         x.save(1);
         changeAll(x);
-        List<Object> first = view(x);
+        List<Object> first = View.of(x);
         x.restore(1);
         changeAll(x);
-        due("40: the same calls then answer the same", view(x), first);
+        due("40: the same calls then answer the same", View.of(x), first);
         ProcessingMemory y = Checks.with(PROGRAM);
         y.hostRead(0, 0, 0);
         y.hostRead(0, 1, 0);
@@ -138,16 +90,16 @@ public final class SavedTest {
     private static void slotsAreApart() {
         ProcessingMemory x = used();
         x.save(0);
-        List<Object> first = view(x);
+        List<Object> first = View.of(x);
         x.run(2);
         x.save(1);
-        List<Object> second = view(x);
+        List<Object> second = View.of(x);
         x.restore(0);
-        due("40: slot 0", view(x), first);
+        due("40: slot 0", View.of(x), first);
         x.restore(1);
-        due("40: slot 1", view(x), second);
+        due("40: slot 1", View.of(x), second);
         x.restore(0);
-        due("40: slot 0 again", view(x), first);
+        due("40: slot 0 again", View.of(x), first);
     }
 
     private static void savedInPlace() {
@@ -155,10 +107,10 @@ public final class SavedTest {
         x.save(0);
         x.run(2);
         x.save(0);
-        List<Object> later = view(x);
+        List<Object> later = View.of(x);
         changeAll(x);
         x.restore(0);
-        due("39: in place of what was saved there", view(x), later);
+        due("39: in place of what was saved there", View.of(x), later);
     }
 
     private static void notSaved() {
@@ -190,9 +142,9 @@ public final class SavedTest {
         CHECKS.dueThrow("40: slot 1", Checks.ELEMENT, () -> x.restore(1));
         x.save(1);
         CHECKS.dueThrow("40: slot 0 still", Checks.ELEMENT, () -> x.restore(0));
-        List<Object> before = view(x);
+        List<Object> before = View.of(x);
         CHECKS.dueThrow("40: slot 0 still", Checks.ELEMENT, () -> x.restore(0));
-        due("40: nothing changed", view(x), before);
+        due("40: nothing changed", View.of(x), before);
         ProcessingMemory y = new ProcessingMemory();
         y.save(0);
         y.restore(0);
