@@ -35,7 +35,7 @@ public final class RoomTest {
         Checks.submitAll(x, 0, 1, 2, 3, 4, 5);
         callAll(x, 1);
         long before = allocated();
-        callAll(x, 40);
+        callAll(x, 30);
         long taken = allocated() - before;
         CHECKS.due("the calls took " + taken + " bytes", taken <= BYTES_OF_ALL_CALLS, true);
     }

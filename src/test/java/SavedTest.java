@@ -1,3 +1,4 @@
+import java.util.Arrays;
 import java.util.List;
 
 /** Promises 39 and 40: saved states. */
@@ -47,28 +48,43 @@ public final class SavedTest {
         }
     }
 
+    // A view takes some 200 calls and an object promises 512, so that what is due comes from
+    // another object, which was used in the same way.
+    private static List<Object> usedView() {
+        return View.of(used());
+    }
+
     private static void everythingComesBack() {
         ProcessingMemory x = used();
-        List<Object> before = View.of(x);
         x.save(0);
-        due("39: saving changes nothing", View.of(x), before);
-        changeAll(x);
-        due("39: changed", View.of(x).equals(before), false);
-        x.restore(0);
-        due("40: as before", View.of(x), before);
-        changeAll(x);
-        x.restore(0);
-        due("40: it stays saved", View.of(x), before);
+        due("39: saving changes nothing", View.of(x), usedView());
+        ProcessingMemory y = used();
+        y.save(0);
+        changeAll(y);
+        due("39: changed", View.of(y).equals(usedView()), false);
+        ProcessingMemory z = used();
+        z.save(0);
+        changeAll(z);
+        z.restore(0);
+        due("40: as before", View.of(z), usedView());
+        ProcessingMemory again = used();
+        again.save(0);
+        for (int i = 0; i < 2; i++) {
+            changeAll(again);
+            again.restore(0);
+        }
+        due("40: it stays saved", View.of(again), usedView());
     }
 
     private static void futureIsTheSame() {
         ProcessingMemory x = used();
         x.save(1);
         changeAll(x);
-        List<Object> first = View.of(x);
         x.restore(1);
         changeAll(x);
-        due("40: the same calls then answer the same", View.of(x), first);
+        ProcessingMemory same = used();
+        changeAll(same);
+        due("40: the same calls then answer the same", View.of(x), View.of(same));
         ProcessingMemory y = Checks.with(PROGRAM);
         y.hostRead(0, 0, 0);
         y.hostRead(0, 1, 0);
@@ -87,19 +103,26 @@ public final class SavedTest {
         due("40: the activations are forgotten", z.finish(), 65);
     }
 
-    private static void slotsAreApart() {
+    private static ProcessingMemory usedLonger() {
         ProcessingMemory x = used();
-        x.save(0);
-        List<Object> first = View.of(x);
         x.run(2);
-        x.save(1);
-        List<Object> second = View.of(x);
-        x.restore(0);
-        due("40: slot 0", View.of(x), first);
-        x.restore(1);
-        due("40: slot 1", View.of(x), second);
-        x.restore(0);
-        due("40: slot 0 again", View.of(x), first);
+        return x;
+    }
+
+    private static void slotsAreApart() {
+        int[][] slots = {{0}, {1}, {1, 0}, {0, 1}, {0, 1, 0}};
+        for (int[] restored : slots) {
+            ProcessingMemory x = used();
+            x.save(0);
+            x.run(2);
+            x.save(1);
+            for (int slot : restored) {
+                x.restore(slot);
+            }
+            boolean isFirst = restored[restored.length - 1] == 0;
+            due("40: slots " + Arrays.toString(restored), View.of(x),
+                    View.of(isFirst ? used() : usedLonger()));
+        }
     }
 
     private static void savedInPlace() {
@@ -107,10 +130,9 @@ public final class SavedTest {
         x.save(0);
         x.run(2);
         x.save(0);
-        List<Object> later = View.of(x);
         changeAll(x);
         x.restore(0);
-        due("39: in place of what was saved there", View.of(x), later);
+        due("39: in place of what was saved there", View.of(x), View.of(usedLonger()));
     }
 
     private static void notSaved() {
