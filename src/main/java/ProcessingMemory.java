@@ -1297,7 +1297,9 @@ public final class ProcessingMemory {
         }
 
         private static int startPlace(int bank, int activation) {
-            return bank * MOST_BUDGET + activation % MOST_BUDGET;
+            // Not %: the mask (MOST_BUDGET is a power of 2) keeps to the bank's places even when
+            // the count has wrapped around.
+            return bank * MOST_BUDGET + (activation & MOST_BUDGET - 1);
         }
     }
 
@@ -1476,7 +1478,8 @@ public final class ProcessingMemory {
         }
 
         void noteRun(int batch, int begin, int end) {
-            int place = runCount % KEPT_RUNS * RUN_FACTS;
+            // Not %: there has to be such a place even when the count has wrapped around.
+            int place = Math.floorMod(runCount, KEPT_RUNS) * RUN_FACTS;
             runs[place] = batch;
             runs[place + 1] = begin;
             runs[place + 2] = end;
